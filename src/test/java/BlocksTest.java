@@ -34,6 +34,7 @@ public final class BlocksTest {
         C.due("2: its first value", x.value(0, 0), 0);
         C.due("2: its second value", x.value(0, 1), 999);
         C.due("2: its third value", x.value(0, 2), 10);
+        C.due("2: bottom and top 0", Checks.addBlock(new SureAnswers(), "0:0-0=0"), 0);
         C.due("2: bottom and top alike", Checks.addBlock(x, "0:7-7=7"), 2);
         C.due("2: bottom above top", Checks.addBlock(x, "0:8-7=7"), SureAnswers.BAD_VALUE);
         C.due("2: value above the top", Checks.addBlock(x, "0:5-7=5,8"), SureAnswers.BAD_VALUE);
@@ -52,6 +53,8 @@ public final class BlocksTest {
         C.due("2: a fault goes ahead of both", Checks.addBlock(x, "1:3-2=3,"), -108);
         C.due("2: eight are left", x.count(0), 8);
         C.due("2: no state was recorded", x.count(7), states);
+        x.undo();
+        C.due("2: the latest one is that before the eighth", x.count(0), 7);
     }
 
     /** The fault of a text, by what addBlock() answers. */
@@ -132,6 +135,11 @@ public final class BlocksTest {
         C.due("3: the width of an open question", y.question(0, 6), 30);
         C.due("3: what was kept stays", y.question(1, 9), 20);
         C.due("3: a question gets its first rows", firstRows(), 1);
+        SureAnswers z = Checks.with("0:0-100=50", "0:0-0=0");
+        z.ask(4, 1, 0, 4000);
+        C.due("3: the width of the mean is 5000", z.question(0, 4), 0);
+        z.addRow(1, 0);
+        C.due("3: it is 3333 with one row more, so it stops", z.question(0, 9), 3333);
     }
 
     /** Whether a question without rows stops as a block gives it a sure answer. */
@@ -208,6 +216,9 @@ public final class BlocksTest {
         SureAnswers y = Checks.with("0:0-999=0,5", "0:0-999=5,999");
         C.due("5: the top alone", y.narrow(0), 994);
         C.due("5: the bottom alone", y.narrow(1), 5);
+        SureAnswers z = Checks.with("0:0-9=0,0");
+        C.due("5: values of 0 alone", z.narrow(0), 9);
+        C.due("5: the top is 0 then", z.block(0, 2), 0);
     }
 
     private static void promise6Forget() {
@@ -236,6 +247,12 @@ public final class BlocksTest {
         y.read(1);
         y.forget();
         C.due("6: the turn stays", y.count(6), 1);
+        SureAnswers z = Checks.with("0:0-5=3,3", "0:4-9=6");
+        z.ask(2, 1, 0, 0);
+        z.readFrom(0);
+        C.due("6: 4 is above the 3 that was read", z.block(1, 5), 0);
+        z.forget();
+        C.due("6: the weight is as if nothing had been read", z.block(1, 5), 100);
     }
 
     public static void main(String[] args) {

@@ -33,6 +33,8 @@ public final class QuestionsTest {
         C.due("7: a seventh", x.ask(4, 1, 0, 0), SureAnswers.FULL);
         C.due("7: BAD_VALUE goes ahead of FULL", x.ask(5, 1, 0, 0), SureAnswers.BAD_VALUE);
         C.due("7: six are left", x.count(1), 6);
+        x.undo();
+        C.due("7: the latest state is that before the sixth", x.count(1), 5);
     }
 
     private static void promise7StopsAtOnce() {

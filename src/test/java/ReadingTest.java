@@ -125,6 +125,40 @@ public final class ReadingTest {
         C.due("20: the greatest is sure", x.block(1, 5), 100);
     }
 
+    private static void weightsOfOpenQuestions() {
+        SureAnswers x = Checks.with("0:0-9=6", "0:5-9=6", "0:0-4=3", "0:0-5=3");
+        x.ask(1, 1, 5, 0);
+        C.due("20: the limit is inside", x.block(0, 5), 100);
+        C.due("20: the limit is the bottom, of an open question", x.block(1, 5), 0);
+        C.due("20: the limit is above the top, of an open question", x.block(2, 5), 0);
+        C.due("20: the limit is the top, of an open question", x.block(3, 5), 100);
+        SureAnswers y = Checks.with("0:0-5=3", "0:5-9=6", "0:4-9=6");
+        y.ask(2, 1, 0, 0);
+        C.due("20: least, the bottom is the upper bound", y.block(1, 5), 0);
+        C.due("20: least, the bottom is one below it", y.block(2, 5), 100);
+        SureAnswers z = Checks.with("0:5-9=6", "0:0-5=3", "0:0-6=3");
+        z.ask(3, 1, 0, 0);
+        C.due("20: greatest, the top is the lower bound", z.block(1, 5), 0);
+        C.due("20: greatest, the top is one above it", z.block(2, 5), 100);
+        z.undo();
+        z.keep();
+        z.ask(3, 2, 0, 0);
+        z.restore();
+        C.due("20: no question, no weight", z.block(0, 5), 0);
+        // What a weight leans on comes back with a state, too.
+        y.readFrom(0);
+        C.due("20: least, 3 was read", y.block(2, 5), 0);
+        y.undo();
+        C.due("17: the weight as it was", y.block(2, 5), 100);
+        SureAnswers w = Checks.with("0:5-9=6", "0:0-6=3");
+        w.ask(3, 1, 0, 0);
+        w.readFrom(0);
+        C.due("20: greatest, 6 was read", w.block(1, 5), 0);
+        C.due("7: it is sure then", w.question(0, 10), 6);
+        w.undo();
+        C.due("17: the weight as it was there", w.block(1, 5), 100);
+    }
+
     private static void promise12Read() {
         SureAnswers x = Checks.with("0:0-9=1,2,3", "1:0-9=4");
         C.due("12: 0", x.read(0), SureAnswers.BAD_VALUE);
@@ -198,6 +232,7 @@ public final class ReadingTest {
         plan1BySpread();
         plan2ByWeight();
         plan2Edges();
+        weightsOfOpenQuestions();
         promise12Read();
         promise13ReadOn();
         promise14ReadFrom();

@@ -72,6 +72,112 @@ public final class TextsAndHistoryTest {
         C.due("17: to the first one", x.count(3), 0);
     }
 
+    /** What was done, told by all that can be told of the state in one number. */
+    private static long picture(SureAnswers x) {
+        long picture = 0;
+        for (int what = 0; what <= 6; what++) {
+            picture = 31 * picture + x.count(what);
+        }
+        for (int i = 0; i < 2; i++) {
+            for (int what = 0; what <= 6; what++) {
+                picture = 31 * picture + x.block(i, what);
+            }
+            for (int what = 0; what <= 12; what++) {
+                picture = 31 * picture + x.question(i, what);
+            }
+            for (int row = 0; row < 4; row++) {
+                picture = 31 * picture + x.value(i, row);
+            }
+        }
+        return picture;
+    }
+
+    private static int act(SureAnswers x, int act) {
+        switch (act) {
+            case 0:
+                return Checks.addBlock(x, "1:0-9=5");
+            case 1:
+                return x.addRow(0, 30);
+            case 2:
+                return x.change(0, 0, 40);
+            case 3:
+                return x.narrow(0);
+            case 4:
+                return x.forget();
+            case 5:
+                return x.ask(1, 1, 5, 0);
+            case 6:
+                return x.setTolerance(0, 3);
+            case 7:
+                return x.stop(0);
+            case 8:
+                return x.drop(0);
+            case 9:
+                return x.setPlan(2);
+            case 10:
+                return x.read(1);
+            case 11:
+                return x.readOn();
+            case 12:
+                return x.readFrom(0);
+            default:
+                return x.restore();
+        }
+    }
+
+    /** Each act records one state, the one before it; what is no act records none. */
+    private static void promise17EachAct() {
+        for (int act = 0; act <= 13; act++) {
+            SureAnswers x = new SureAnswers();
+            x.keep();
+            Checks.addBlock(x, "0:0-99=10,20,30");
+            x.ask(0, 1, 0, 0);
+            x.readFrom(0);
+            long before = picture(x);
+            C.due("17: the act " + act + " is one", act(x, act) >= 0 ? 1 : 0, 1);
+            C.due("17: the act " + act + " changes the state", picture(x) != before ? 1 : 0, 1);
+            C.due("17: the act " + act + " records a state", x.count(7), 4);
+            C.due("17: the act " + act + " is undone", x.undo(), 3);
+            C.due("17: the state before the act " + act, picture(x), before);
+        }
+        SureAnswers x = Checks.with("0:0-99=10,20,30");
+        x.ask(0, 1, 0, 0);
+        x.type('1');
+        x.clearText();
+        x.keep();
+        x.block(0, 0);
+        x.value(0, 0);
+        x.question(0, 5);
+        x.next(0);
+        x.stopsIn(0);
+        x.best(0);
+        x.count(0);
+        C.due("17: what is no act records nothing", x.count(7), 2);
+    }
+
+    /** What was read of a block, and its bottom, come back as they were. */
+    private static void promise17WhatWasRead() {
+        SureAnswers x = Checks.with("0:3-90=40,50,7", "0:0-99=60");
+        x.ask(2, 1, 0, 0);
+        x.ask(3, 1, 0, 0);
+        x.ask(0, 1, 0, 0);
+        x.read(3);
+        x.keep();
+        x.undo();
+        C.due("17: nothing is read, the sum's lower bound", x.question(2, 5), 9);
+        C.due("17: the least, nothing is read", x.question(0, 6), 90);
+        C.due("17: the greatest, nothing is read", x.question(1, 5), 3);
+        x.restore();
+        C.due("19: the bottom, in the lower bound", x.question(2, 5), 153);
+        C.due("19: the sum of the block", x.block(0, 6), 90);
+        C.due("19: the least that was read", x.question(0, 6), 40);
+        C.due("19: the greatest that was read", x.question(1, 5), 60);
+        x.narrow(0);
+        x.undo();
+        C.due("17: the bottom as it was", x.block(0, 1), 3);
+        C.due("17: the top as it was", x.block(0, 2), 90);
+    }
+
     private static void promise17Turn() {
         SureAnswers x = Checks.with("0:0-9=1", "0:0-9=1", "0:0-9=1");
         x.read(1);
@@ -128,6 +234,8 @@ public final class TextsAndHistoryTest {
         promise15Type();
         promise16ClearText();
         promise17Undo();
+        promise17EachAct();
+        promise17WhatWasRead();
         promise17Turn();
         promise18And19Snapshot();
         C.end();

@@ -77,6 +77,18 @@ public final class ToldTest {
         answers(x, 2, 1, 0, 11, 11, 11);
         answers(x, 3, 2, 0, 5, 5, 5);
         answers(x, 1, 3, 12, 3, 3, 3);
+        // Values of 0 alone, and blocks of which all was read.
+        SureAnswers y = Checks.with("0:0-0=0", "1:0-9=0,1", "2:5-9=7");
+        answers(y, 3, 1, 0, 0, 0, 0);
+        y.readFrom(0);
+        y.readFrom(1);
+        y.readFrom(1);
+        answers(y, 3, 1, 0, 0, 0, 0);
+        answers(y, 3, 3, 0, 1, 1, 1);
+        answers(y, 2, 4, 0, 5, 9, 7);
+        y.readFrom(2);
+        answers(y, 2, 4, 0, 7, 7, 7);
+        answers(y, 3, 4, 0, 7, 7, 7);
     }
 
     private static void promise22Question() {
@@ -184,6 +196,21 @@ public final class ToldTest {
         C.due("25: BAD_VALUE goes first there too", x.best(2), SureAnswers.BAD_VALUE);
     }
 
+    /** The greatest numbers of rows that the calls can tell. */
+    private static void promise24And25AllRows() {
+        SureAnswers x = new SureAnswers();
+        for (int i = 0; i < 8; i++) {
+            Checks.addBlock(x, "0:0-9=0,1,2,3,4,5,6,7,8,9,0,1,2,3,4,5");
+        }
+        x.ask(0, 1, 0, 0);
+        C.due("24: all 128 rows", x.stopsIn(0), 128);
+        C.due("25: all 128 rows, so the lowest plan", x.best(0), 0);
+        C.due("25: all 128 rows", x.best(1), 128);
+        C.due("25: nothing is read by it", x.count(5), 0);
+        C.due("13: all 128 rows", x.readOn(), 128);
+        C.due("13: the question is stopped", x.question(0, 10), 8 * 60);
+    }
+
     private static void promise26Count() {
         SureAnswers x = Checks.with("0:0-10=3,4,5", "1:0-50=20,20");
         x.ask(0, 1, 0, 0);
@@ -208,6 +235,7 @@ public final class ToldTest {
         promise23Next();
         promise24StopsIn();
         promise25Best();
+        promise24And25AllRows();
         promise26Count();
         C.end();
     }
