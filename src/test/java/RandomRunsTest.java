@@ -4,11 +4,12 @@ import java.util.TreeMap;
 /**
  * Runs of calls, drawn by a generator with fixed seeds, on the class and on
  * the model beside it: each answer must be the same, and what is told of the
- * whole state now and then. It also counts, for each call, which answers came,
- * and fails if the runs did not reach some error or NONE of a @return line.
+ * whole state at the end of many runs. No object is used for more than its 512
+ * calls. It also counts, for each call, which answers came, and fails if the
+ * runs did not reach some error or NONE of a @return line.
  */
 public final class RandomRunsTest {
-    private static final int RUNS = 3000;
+    private static final int RUNS = 20000;
     private static final int CALLS = 512;
 
     private static final class Draw {
@@ -106,9 +107,33 @@ public final class RandomRunsTest {
         if (draw.once(10)) {
             text = text.substring(0, draw.below(text.length() + 1));
         }
-        for (int i = 0; i < text.length(); i++) {
-            // Typing alone would use up the calls of a run: only some count.
-            CHECKS.due("type", x.type(text.charAt(i)), m.type(text.charAt(i)));
+        for (int i = 0; i < text.length() && calls < CALLS; i++) {
+            char c = text.charAt(i);
+            same("type", String.valueOf((int) c), x.type(c), m.type(c));
+        }
+    }
+
+    private void typeBlock() {
+        typeText();
+        if (calls < CALLS) {
+            same("addBlock", "", x.addBlock(), m.addBlock());
+        }
+    }
+
+    private void ask(int kind, int bottom, int top, int tolerance) {
+        int set = draw.once(4) ? draw.around(1, 15) : draw.from(1, (1 << layers) - 1);
+        int limit = kind == 1 || draw.once(30) ? draw.around(bottom, top) : 0;
+        same("ask", kind + ", " + set + ", " + limit + ", " + tolerance,
+                x.ask(kind, set, limit, tolerance), m.ask(kind, set, limit, tolerance));
+    }
+
+    /** Some blocks and questions to begin with, as typing uses up the calls of a run. */
+    private void begin() {
+        for (int i = draw.below(6); i > 0; i--) {
+            typeBlock();
+        }
+        for (int i = draw.below(5); i > 0; i--) {
+            ask(draw.from(0, 4), 0, span, draw.once(3) ? draw.from(0, span) : 0);
         }
     }
 
@@ -123,11 +148,10 @@ public final class RandomRunsTest {
         int value = draw.around(bottom, top);
         int tolerance = draw.once(3) ? 0 : draw.around(0, draw.once(3) ? 99999 : span * 10);
         switch (draw.below(30)) {
-            case 0: case 1: case 2:
-                typeText();
-                same("addBlock", "", x.addBlock(), m.addBlock());
+            case 0:
+                typeBlock();
                 break;
-            case 3:
+            case 1: case 2: case 3:
                 same("addBlock", "", x.addBlock(), m.addBlock());
                 break;
             case 4: case 5:
@@ -144,14 +168,9 @@ public final class RandomRunsTest {
                     same("forget", "", x.forget(), m.forget());
                 }
                 break;
-            case 10: case 11: case 12: {
-                int kind = draw.around(0, 4);
-                int set = draw.around(1, 15);
-                int limit = kind == 1 || draw.once(30) ? draw.around(bottom, top) : 0;
-                same("ask", kind + ", " + set + ", " + limit + ", " + tolerance,
-                        x.ask(kind, set, limit, tolerance), m.ask(kind, set, limit, tolerance));
+            case 10: case 11: case 12:
+                ask(draw.around(0, 4), bottom, top, tolerance);
                 break;
-            }
             case 13: case 14:
                 same("setTolerance", q + ", " + tolerance, x.setTolerance(q, tolerance), m.setTolerance(q, tolerance));
                 break;
@@ -207,7 +226,7 @@ public final class RandomRunsTest {
         int what = draw.around(0, 12);
         int row = draw.around(0, Math.max(0, m.block(b, 3) - 1));
         int part = draw.around(0, 1);
-        switch (draw.below(8)) {
+        switch (draw.below(10)) {
             case 0:
                 same("block", b + ", " + what, x.block(b, what), m.block(b, what));
                 break;
@@ -220,10 +239,10 @@ public final class RandomRunsTest {
             case 4:
                 same("next", part + "", x.next(part), m.next(part));
                 break;
-            case 5:
+            case 5: case 8:
                 same("stopsIn", q + "", x.stopsIn(q), m.stopsIn(q));
                 break;
-            case 6:
+            case 6: case 9:
                 same("best", part + "", x.best(part), m.best(part));
                 break;
             default:
@@ -232,40 +251,37 @@ public final class RandomRunsTest {
         }
     }
 
-    /** Holds all that is told of the two states against each other. */
+    /** Holds what is told of the two states against each other, as far as there are calls left. */
     private void lookAtAll() {
-        for (int what = -1; what <= 13; what++) {
-            CHECKS.due("run " + run + ", call " + calls + ", then count(" + what + ")", x.count(what), m.count(what));
-            for (int b = 0; b < m.count(0); b++) {
-                CHECKS.due("run " + run + ", call " + calls + ", then block(" + b + ", " + what + ")",
-                        x.block(b, what), m.block(b, what));
+        for (int what = 0; what <= 12; what++) {
+            for (int q = 0; q < m.count(1) && calls < CALLS; q++) {
+                same("question", q + ", " + what, x.question(q, what), m.question(q, what));
             }
-            for (int q = 0; q < m.count(1); q++) {
-                CHECKS.due("run " + run + ", call " + calls + ", then question(" + q + ", " + what + ")",
-                        x.question(q, what), m.question(q, what));
+            for (int b = 0; b < m.count(0) && what <= 6 && calls < CALLS; b++) {
+                same("block", b + ", " + what, x.block(b, what), m.block(b, what));
+            }
+            if (what <= 8 && calls < CALLS) {
+                same("count", what + "", x.count(what), m.count(what));
             }
         }
         for (int b = 0; b < m.count(0); b++) {
-            for (int row = 0; row < 17; row++) {
-                CHECKS.due("run " + run + ", call " + calls + ", then value(" + b + ", " + row + ")",
-                        x.value(b, row), m.value(b, row));
+            for (int row = 0; row < m.block(b, 3) && calls < CALLS; row++) {
+                same("value", b + ", " + row, x.value(b, row), m.value(b, row));
             }
         }
-        CHECKS.due("run " + run + ", call " + calls + ", then next(0)", x.next(0), m.next(0));
-        CHECKS.due("run " + run + ", call " + calls + ", then next(1)", x.next(1), m.next(1));
     }
 
     private void go() {
-        while (calls < CALLS) {
+        int end = draw.once(2) ? CALLS : draw.from(100, 400);
+        begin();
+        while (calls < end) {
             if (draw.once(3)) {
                 look();
             } else {
                 act();
             }
-            if (draw.once(20)) {
-                lookAtAll();
-            }
         }
+        lookAtAll();
     }
 
     private static void reached(String call, String... answers) {
