@@ -195,6 +195,12 @@ public final class BlockEdgesTest {
         E.due("4: so is the sum", steps + "; change(0, 1, 9)", "block(0, 6)", 15);
         E.due("4: it is not read by that", steps + "; change(0, 2, 9)", "value(0, 2)", NOT_POSSIBLE);
         E.due("4: what was not read is not in the sum", steps + "; change(0, 2, 9)", "block(0, 6)", 13);
+        E.due("4: the least value goes up", "add 0:2-9=5,8; ask(2, 1, 0, 0); read(1); change(0, 0, 6)",
+                "question(0, 6)", 6);
+        E.due("4: the greatest value goes down", "add 0:2-9=5,8; ask(3, 1, 0, 0); read(1); change(0, 0, 4)",
+                "question(0, 5)", 4);
+        E.due("4: how many goes down", "add 0:2-9=5,8; ask(1, 1, 5, 0); read(1); change(0, 0, 4)",
+                "question(0, 5)", 0);
         E.due("4: it is read later as it is then", steps + "; change(0, 2, 9)", "readFrom(0)", 9);
     }
 
@@ -276,6 +282,11 @@ public final class BlockEdgesTest {
         E.due("6: one that is open stays so", steps + "; forget()", "question(1, 4)", 0);
         E.due("6: its bounds are as if nothing had been read", steps + "; forget()", "question(1, 6)", 20);
         E.due("6: its guess, too", steps + "; forget()", "question(1, 7)", 10);
+        E.due("6: the least value that was read is forgotten", "add 0:2-9=5,8; ask(2, 1, 0, 0); read(1); forget()",
+                "question(0, 6)", 9);
+        E.due("6: the greatest value that was read is forgotten", "add 0:2-9=5,8; ask(3, 1, 0, 0); read(1); forget()",
+                "question(0, 5)", 2);
+        E.due("6: the sum is forgotten", "add 0:2-9=5,8; read(1); forget()", "block(0, 6)", 0);
         E.due("6: the turn stays", steps + "; setPlan(1); read(1); setPlan(0); forget()", "count(6)", 0);
         E.due("6: the turn stays, between two blocks", "add 0:0-9=1,2; addBlock(); read(1); forget()", "next(0)", 1);
     }

@@ -1,7 +1,8 @@
 /** The boundary cases of the promises 17 to 19: undo(), keep() and restore(). */
 public final class HistoryEdgesTest {
     private static final int NONE = SureAnswers.NONE;
-    private static final String WORLD = "add 0:0-99=10,20,30; add 1:2-9=5,5; ask(0, 1, 0, 0); ask(2, 2, 0, 3); read(3)";
+    private static final String WORLD = "add 0:0-99=10,20,30; add 1:2-9=5,5; ask(0, 1, 0, 0); ask(2, 2, 0, 3);"
+            + " ask(1, 1, 15, 0); ask(3, 1, 0, 0); read(3)";
     private static final String ALL_128 = "add 0:0-9=0,1,2,3,4,5,6,7,8,9,0,1,2,3,4,5; 7 times addBlock()";
     private static final String[] ACTS = {"addBlock()", "addRow(0, 99)", "change(0, 0, 40)", "change(0, 2, 40)",
         "narrow(0)", "forget()", "ask(1, 3, 5, 0)", "setTolerance(0, 7)", "setTolerance(0, 99999)", "stop(0)", "drop(0)",
@@ -13,7 +14,8 @@ public final class HistoryEdgesTest {
             E.undoes("17: " + act + " is an act", WORLD, act);
             E.undoes("17: " + act + " is an act, ahead of it there are four", WORLD + "; setPlan(1); setPlan(0)", act);
             E.undoes("17: " + act + " is an act, behind an undo", WORLD + "; setPlan(1); undo()", act);
-            E.undoes("17: " + act + " is an act, behind four undo", WORLD + "; setPlan(1); keep(); 4 times undo(); " + WORLD, act);
+            E.undoes("17: " + act + " is an act, behind four undo",
+                    WORLD + "; setPlan(1); keep(); 4 times undo(); 2 times drop(0); " + WORLD, act);
             E.undoes("17: " + act + " is an act, the snapshot stays", "setPlan(2); keep(); setPlan(0); " + WORLD, act);
         }
         E.undoes("17: restore() is an act", "setPlan(2); keep(); setPlan(0); " + WORLD, "restore()");
@@ -100,6 +102,23 @@ public final class HistoryEdgesTest {
         E.due("17: not that there was no snapshot", "setPlan(1); keep(); 1 times undo()", "restore()", 0);
     }
 
+    private static void whatIsBroughtBackOfReading() {
+        String least = "add 0:2-9=5,3; ask(2, 1, 0, 0); read(1); ";
+        String greatest = "add 0:2-9=5,8; ask(3, 1, 0, 0); read(1); ";
+        E.due("17: the least value that was read", least + "read(1); undo()", "question(0, 6)", 5);
+        E.due("17: the least value that was read, changed", least + "change(0, 0, 4); undo()", "question(0, 6)", 5);
+        E.due("17: the least value that was read, forgotten", least + "forget(); undo()", "question(0, 6)", 5);
+        E.due("17: the greatest value that was read", greatest + "read(1); undo()", "question(0, 5)", 5);
+        E.due("17: the greatest value that was read, changed", greatest + "change(0, 0, 6); undo()", "question(0, 5)", 5);
+        E.due("17: the greatest value that was read, forgotten", greatest + "forget(); undo()", "question(0, 5)", 5);
+        E.due("17: the sum of the values that were read", least + "read(1); undo()", "block(0, 6)", 5);
+        E.due("17: the limit of a question", "ask(1, 1, 7, 0); ask(1, 1, 8, 0); drop(0); undo()", "question(0, 2)", 7);
+        E.due("19: the least value that was read", least + "keep(); read(1); restore()", "question(0, 6)", 5);
+        E.due("19: the greatest value that was read", greatest + "keep(); read(1); restore()", "question(0, 5)", 5);
+        E.due("19: the limit of a question", "ask(1, 1, 7, 0); keep(); drop(0); ask(1, 1, 8, 0); restore()",
+                "question(0, 2)", 7);
+    }
+
     private static void snapshots() {
         E.keeps("18: of a new object", "", 0);
         E.keeps("18: nothing was read", "add 0:0-9=1,2", 0);
@@ -134,7 +153,7 @@ public final class HistoryEdgesTest {
         E.act("19: the later one", WORLD + "; keep(); read(1); keep(); forget()", "restore()", 4);
         E.due("19: what is done behind restore() does not change the snapshot",
                 WORLD + "; keep(); restore(); change(0, 0, 77); drop(0); narrow(1); restore()", "value(0, 0)", 10);
-        E.due("19: the question is there again", WORLD + "; keep(); restore(); drop(0); restore()", "count(1)", 2);
+        E.due("19: the question is there again", WORLD + "; keep(); restore(); drop(0); restore()", "count(1)", 4);
     }
 
     private static void whatIsRestored() {
@@ -162,6 +181,7 @@ public final class HistoryEdgesTest {
         statesFromNoneToFull();
         statesGoRound();
         whatIsBroughtBack();
+        whatIsBroughtBackOfReading();
         snapshots();
         restored();
         whatIsRestored();

@@ -299,6 +299,8 @@ public final class QuestionEdgesTest {
         }
         E.due("10: those ahead of it stay", three + "; drop(1)", "question(0, 0)", 0);
         E.due("10: those behind it come one earlier", three + "; drop(1)", "question(1, 0)", 4);
+        E.due("10: with their limit", "ask(1, 1, 7, 0); ask(1, 1, 8, 0); drop(0)", "question(0, 2)", 8);
+        E.due("10: with their layers", "ask(1, 1, 7, 0); ask(1, 6, 8, 0); drop(0)", "question(0, 1)", 6);
         E.due("10: with their tolerance", three + "; drop(1)", "question(1, 3)", 7);
         E.due("10: all of those behind it", three + "; drop(0)", "question(1, 0)", 4);
         E.due("10: stopped as it was", three + "; drop(0)", "question(0, 4)", 1);

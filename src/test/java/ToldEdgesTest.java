@@ -117,6 +117,8 @@ public final class ToldEdgesTest {
         E.stays("21: the last row that was read", steps, "value(0, 1)", 999);
         E.stays("21: the first row that was not", steps, "value(0, 2)", NOT_POSSIBLE);
         E.stays("21: nothing was read of the block", steps, "value(1, 0)", NOT_POSSIBLE);
+        E.stays("21: the last row, nothing was read of the block", steps, "value(1, 2)", NOT_POSSIBLE);
+        E.stays("21: the 16th row, nothing was read", ALL_128, "value(7, 15)", NOT_POSSIBLE);
         E.stays("21: one behind the last row", steps, "value(0, 3)", UNKNOWN);
         E.stays("21: one behind the last row, nothing was read", steps, "value(1, 3)", UNKNOWN);
         E.stays("21: one behind the last row, all was read", steps + "; readFrom(0)", "value(0, 3)", UNKNOWN);
@@ -397,6 +399,7 @@ public final class ToldEdgesTest {
             E.stays("26: there is no number " + bad, "", "count(" + bad + ")", BAD);
             E.stays("26: there is no number " + bad + ", full", full, "count(" + bad + ")", BAD);
         }
+        E.due("26: the 512th call of an object still answers", "add 0:1-2=1; 502 times type(48)", "count(8)", 80);
         E.due("26: all were read, so none is open", full + "; read(1)", "count(2)", 0);
         E.due("26: all were read", full + "; read(1)", "count(5)", 128);
         E.due("26: open ones, one without rows", "add 0:0-9=1; ask(0, 1, 0, 9); ask(0, 2, 0, 9)", "count(2)", 1);
